@@ -1844,8 +1844,8 @@ public final class TwoAsks {
         void findQuestion() {
             bestSaid = -FARTHEST_SAID;
             bestMost = many + 1;
-            for (int said = -FARTHEST_SAID; said <= FARTHEST_SAID; said++) {
-                int most = mostAlike(said);
+            for (int said = -FARTHEST_SAID; said <= FARTHEST_SAID && bestMost > 1; said++) {
+                int most = mostAlike(said, bestMost);
                 if (most < bestMost) {
                     bestSaid = said;
                     bestMost = most;
@@ -1853,13 +1853,13 @@ public final class TwoAsks {
             }
         }
 
-        /** How many come to the same, where they are the most. */
-        private int mostAlike(int said) {
+        /** How many come to the same, where they are the most; so many at least are not counted on. */
+        private int mostAlike(int said, int tooMany) {
             worlds.comeBy(said);
             worlds.leaders.clear(many);
             Arrays.fill(tally, 0, many, 0);
             int most = 0;
-            for (int i = 0; i < many; i++) {
+            for (int i = 0; i < many && most < tooMany; i++) {
                 int leader = worlds.leaders.leaderOf(worlds.values[ones[i]], i);
                 tally[leader]++;
                 most = Math.max(most, tally[leader]);

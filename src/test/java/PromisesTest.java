@@ -264,7 +264,11 @@ public final class PromisesTest {
         about = "4 and 5, TWICE, WRONG, GREAT";
         fault("row a 1 = 1; list a 1;", 3, 18);
         fault("list a;list b;list a;list b;", 3, 19);
-        fault("list a; list aa; list b;", 0, -1);
+        for (char c = 'a'; c <= 'z'; c++) {
+            String two = "list " + c + c;
+            fault("list " + c + ";" + two + ";" + two + c + ";list c" + c + "d;list d" + c + "c;", 0, -1);
+            fault("list a" + c + "; list a" + c + ";", 3, 14);
+        }
         fault("list a; list a 100;", 3, 13);
         fault("list a 100; list a;", 5, 7);
         fault("row a 1 = 1; row a 0 = 1;", 3, 17);
@@ -276,13 +280,11 @@ public final class PromisesTest {
         fault("list a 99 -99 -0;", 0, -1);
         fault("list a 1 100;", 5, 9);
         fault("list a 1 - 100;", 5, 11);
-        fault("prime 2;", 0, -1);
-        fault("prime 0;", 5, 6);
-        fault("prime 1;", 5, 6);
-        fault("prime 9;", 5, 6);
-        fault("prime 91;", 5, 6);
-        fault("prime 97;", 0, -1);
-        fault("prime 101;", 5, 6);
+        String primes = " 2 3 5 7 11 13 17 19 23 29 31 37 41 43 47 53 59 61 67 71 73 79 83 89 97 ";
+        for (int number = 0; number < 130; number++) {
+            fault("prime " + number + ";", primes.contains(" " + number + " ") ? 0 : 5, 6);
+        }
+        fault("prime 9973;", 5, 6);
         fault("share 0 1;", 5, 6);
         fault("share 96 96;", 0, -1);
         fault("share 97 1;", 5, 6);
@@ -412,6 +414,10 @@ public final class PromisesTest {
         law("if place < 2 then place + 10 else if place < 3 then 50 else 60", 10, 11, 50, 60);
         law("if place < 1 then 1 else if place < 2 then 2 else if place < 3 then 3 else if place < 4 then 4 else 5",
                 1, 2, 3, 4, 5);
+        // as much as can wait at once, and as long as a law can be
+        law("1+1*(1+1*(1+1*(1+1*(1+1*(1+1*(1+1*2))))))", 9);
+        law("if 9-8/(1+1*(1+1*(1+1*(1+1*(1+1*(1+1*2)))))) < 9-8/(1+1*(1+1*(1+1*(1+1*(1+1*(1+1*2)))))) then 1 else 3", 3);
+        law("0" + "+1-1".repeat(97) + "-5", -5);
         law("if 0 - 1 < 0 then 1 else 2", 1);
         law("if 2 < 2 then 1 else 2", 2);
         law("if 1 + 1 < 1 * 3 then (1 + 2) else 2", 3);
@@ -454,9 +460,10 @@ public final class PromisesTest {
 
     private static void two() {
         about = "8";
-        TwoAsks x = with("list a 3 4 2; list b 1 -1 5; list c 99 99 99 99 99 99; list d; list e 60 30 9;");
+        TwoAsks x = with("list a 3 4 2; list b 1 -1 5; list c 99 99 99 99 99 99; list d; list e 60 30 9;"
+                + "list f 8;");
         long[][] due = {{9, 10, 243, 3}, {-2, -2, -2, -2}, {594, 595, 7395210560627604L, 4}, {0, 1, 0, 2},
-            {99, 100, 93060, 4}};
+            {99, 100, 93060, 4}, {8, 9, 8, 2}};
         for (int row = 0; row < due.length; row++) {
             for (int what = 0; what < 4; what++) {
                 due("two(" + row + ", " + what + ")", x.two(row, what), due[row][what]);
@@ -465,7 +472,7 @@ public final class PromisesTest {
         due("two(0, 4)", x.two(0, 4), -1);
         due("two(0, -1)", x.two(0, -1), -1);
         due("two(1, 4)", x.two(1, 4), -1);
-        due("two(5, 0)", x.two(5, 0), -1);
+        due("two(6, 0)", x.two(6, 0), -1);
         due("two(-1, 0)", x.two(-1, 0), -1);
         // the second answer's figures tell the row again
         for (int place = 0; place < 3; place++) {
@@ -708,6 +715,7 @@ public final class PromisesTest {
         // b to the 3 = 9 b b + 99 b + 99 at no whole b; -99 b = -99 - 90 b at 11
         due("at no whole number", y.meets(0, 1), -2);
         due("at 11", y.meets(2, 3), 11);
+        due("b - 99 = 99", with("list a -99 1; list b 99;").meets(0, 1), 198);
     }
 
     private static void game() {
@@ -840,6 +848,8 @@ public final class PromisesTest {
             due("shared(" + set + ", 0)", x.shared(set, 0), -1);
             due("shareRow(" + set + ", 0)", x.shareRow(set, 0), -1);
         }
+        x.secret(1);
+        due("shared by a set that was not asked for ahead", x.shared(7, 4), 0);
         TwoAsks y = with("share 1 1; share 2 2; share 3 3; share 4 4; share 5 5; share 6 6; share 7 7; share 96 96;");
         due("six", y.secret(63), 0);
         due("six", y.shareRow(252, 1), 1);
@@ -985,7 +995,28 @@ public final class PromisesTest {
         }
         due("(0 .. 9, 0) and (0 .. 9, 1)", z.fits(20, 19, 4, -1), 20);
         due("one is not enough, two are", z.enough(20, 19, 4), 2);
-        due("19 of them, the first 19", z.enough(19, 18, 4), 1);
+        due("19 of them, the first 19: -9 alone", z.enough(19, 18, 4), 1);
+        TwoAsks w = with("bound 2 9;");
+        for (int b = 0; b <= 8; b++) {
+            w.tell(99, b);
+        }
+        for (int b = 0; b <= 9; b++) {
+            w.tell(99, 99 + b);
+        }
+        due("(0 .. 8, 0) and (0 .. 9, 1): 9 alone", w.enough(19, 18, 4), 1);
+        // 10 with 1 at place 0, 10 with 2, and 4 or 5 more that come to 5 or 6 by 1
+        TwoAsks v = with("bound 2 9;");
+        v.tell(0, 1);
+        v.tell(0, 2);
+        v.tell(1, 5);
+        due("24 fit", v.fits(3, 2, 4, -1), 24);
+        due("24 are not too many", v.enough(3, 2, 4), 1);
+        v.forget();
+        v.tell(0, 1);
+        v.tell(0, 2);
+        v.tell(1, 6);
+        due("25 fit", v.fits(3, 2, 4, -1), 25);
+        due("25 are too many", v.enough(3, 2, 4), -2);
     }
 
     private static void costDegree() {
