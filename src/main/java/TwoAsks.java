@@ -880,7 +880,12 @@ public final class TwoAsks {
         }
 
         private boolean tellRow() {
-            draft.tellRow(laws.law, rowSize);
+            int ahead = 0;
+            for (int place = 0; place < rowSize; place++) {
+                ahead = laws.law.numberAt(place, ahead, rowSize);
+                draft.tellNumber(place, ahead);
+            }
+            draft.endRow(rowSize);
             return true;
         }
 
@@ -907,7 +912,7 @@ public final class TwoAsks {
                 draft.tellNumber(size, below ? -number : number);
                 size++;
             }
-            draft.tellList(size);
+            draft.endRow(size);
             return true;
         }
 
@@ -1299,15 +1304,6 @@ public final class TwoAsks {
             return isNew;
         }
 
-        void tellRow(Law law, int size) {
-            int ahead = 0;
-            for (int place = 0; place < size; place++) {
-                ahead = law.numberAt(place, ahead, size);
-                tellNumber(place, ahead);
-            }
-            tellList(size);
-        }
-
         /** A number of the row that is told next. */
         void tellNumber(int place, int number) {
             if (rows < MOST_ROWS && place < MOST_PLACES) {
@@ -1316,7 +1312,7 @@ public final class TwoAsks {
         }
 
         /** Ends the row whose numbers were told. */
-        void tellList(int size) {
+        void endRow(int size) {
             if (rows < MOST_ROWS) {
                 sizes[rows] = size;
                 rows++;

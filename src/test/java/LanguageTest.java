@@ -26,7 +26,8 @@ public final class LanguageTest extends TreePathScanner<Void, Void> {
     private static final String PROGRAM = "src/main/java/TwoAsks.java";
     private static final int LONGEST_METHOD = 60;
     private static final int MOST_PARAMETERS = 7;
-    private static final int DEEPEST_CALLS = 8;
+    // one less than may be, as the one who calls may be counted
+    private static final int DEEPEST_CALLS = 7;
     private static final int MOST_CLASSES = 12;
     private static final int MOST_FIELDS = 20;
     private static final Set<String> LIBRARY = Set.of("java.lang.String.length", "java.lang.String.charAt",
