@@ -876,6 +876,11 @@ public final class EdgesOfTextsTest extends Edges {
                 due("asks behind " + text, x.asks(), 26);
                 due("row behind " + text, x.row(0, 1), 1);
                 due("list behind " + text, x.row(1, -1), 1);
+                feed(x, text);
+                due("read of " + text, x.read(), 1);
+                feed(x, "ask=2;");
+                due("read behind " + text, x.read(), 0);
+                due("asks behind " + text, x.asks(), 2);
             }
         });
     }

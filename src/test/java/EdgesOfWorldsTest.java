@@ -452,6 +452,14 @@ public final class EdgesOfWorldsTest extends Edges {
             due("two at the most by -9 and 9", y.next(0, 0, 4, 0), -9);
             due("most", y.next(0, 0, 4, 1), 2);
         });
+        edge("18: next: the same, whatever was asked ahead", () -> {
+            TwoAsks x = with("bound 2 9;");
+            due("of all", x.next(0, 0, 4, 0), -9);
+            due("clash", x.clash(3, true), 10);
+            x.tell(0, 9);
+            due("of ten", x.next(1, 0, 4, 0), -9);
+            due("most of ten", x.next(1, 0, 4, 1), 1);
+        });
         edge("18: next: -2000: none FIT", () -> {
             TwoAsks x = with("bound 2 3;");
             x.tell(0, 4);
